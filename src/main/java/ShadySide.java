@@ -42,14 +42,14 @@ public final class ShadySide {
     private static final int[] EAST = {0, 1, 1, 1, 0, -1, -1, -1};
     private static final int[] SOUTH = {-1, -1, 0, 1, 1, 1, 0, -1};
 
-    private final Reader reader = new Reader();
-    private final Town[] marks = new Town[MARK_LIMIT];
-    private final Sky sky = new Sky();
-    private final Walk walk = new Walk();
-    private final Garden garden = new Garden(walk);
-    private final Crowd group = new Crowd(walk);
     private Town town = new Town();
     private Town spare = new Town();
+    private final Town[] marks = new Town[MARK_LIMIT];
+    private final Reader reader = new Reader(spare);
+    private final Sky sky = new Sky(town);
+    private final Walk walk = new Walk(sky);
+    private final Garden garden = new Garden(walk);
+    private final Crowd group = new Crowd(walk);
 
     public ShadySide() {
         sky.build(town);
@@ -605,7 +605,7 @@ public final class ShadySide {
         if (who == null) {
             return false;
         }
-        walk.set(sky, who, day);
+        walk.set(who, day);
         walk.aim(minute, from, to);
         return true;
     }
@@ -1127,6 +1127,10 @@ public final class ShadySide {
         int site;
         int fault;
 
+        Reader(Town town) {
+            this.town = town;
+        }
+
         /** Reads the tape into an empty town: 0, or the first fault. */
         int read(Town into) {
             town = into;
@@ -1417,6 +1421,10 @@ public final class ShadySide {
         final int[] steps = new int[SQUARES];
         Town town;
 
+        Sky(Town town) {
+            this.town = town;
+        }
+
         void build(Town told) {
             town = told;
             layGround();
@@ -1456,10 +1464,8 @@ public final class ShadySide {
             Arrays.fill(lines, NONE);
             for (int line = 0; line < town.sunLines; line++) {
                 Sun sun = town.sun(line);
-                for (int minute = sun == null ? MINUTES : Math.max(0, sun.minute); minute < MINUTES; minute++) {
-                    if (isDay(sun.day)) {
-                        lines[row(sun.day, minute)] = line;
-                    }
+                if (sun != null && isTime(sun.day, sun.minute)) {
+                    Arrays.fill(lines, row(sun.day, sun.minute), row(sun.day, MINUTES), line);
                 }
             }
         }
@@ -1550,8 +1556,8 @@ public final class ShadySide {
         final Chain way = new Chain(MINUTES);
         /** The square of each minute of the way. */
         final int[] path = new int[MINUTES];
-        Sky sky;
-        Walker walker;
+        final Sky sky;
+        Walker walker = new Walker();
         int day;
         int first;
         int from;
@@ -1566,8 +1572,11 @@ public final class ShadySide {
         int arrival;
         int place;
 
-        void set(Sky over, Walker who, int ofDay) {
-            sky = over;
+        Walk(Sky sky) {
+            this.sky = sky;
+        }
+
+        void set(Walker who, int ofDay) {
             walker = who;
             day = ofDay;
             hot = 1;
