@@ -1624,8 +1624,10 @@ public final class ShadySide {
         private boolean search(int by) {
             arrival = NONE;
             Arrays.fill(reach, FAR);
-            offer(first, from, 0);
             int end = Math.min(by, LAST);
+            if (first <= end) {
+                offer(first, from, 0);
+            }
             for (int minute = first; minute <= end && most >= 0; minute++) {
                 for (int square = 0; square < SQUARES; square++) {
                     int spent = reach[minute * SQUARES + square];
