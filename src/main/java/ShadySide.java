@@ -253,8 +253,7 @@ public final class ShadySide {
         if (!ready(walker, day, minute, from, to)) {
             return NONE;
         }
-        walk.heats = true;
-        walk.seekFirst(walk.walker.bears);
+        walk.seekBearable();
         return walk.arrival;
     }
 
@@ -314,7 +313,7 @@ public final class ShadySide {
         if (what < 0 || what > 2 || !ready(walker, day, 0, from, to)) {
             return NONE;
         }
-        walk.labelBack(0, LAST);
+        walk.labelBack(0, LAST, false);
         int many = 0;
         int first = NONE;
         int soonest = NONE;
@@ -349,7 +348,7 @@ public final class ShadySide {
         if (what < 0 || what > 3 || !isMinute(last) || first > last || !ready(walker, day, first, from, to)) {
             return NONE;
         }
-        walk.labelBack(first, LAST);
+        walk.labelBack(first, LAST, false);
         int best = NONE;
         int worst = NONE;
         int lowest = FAR;
@@ -379,7 +378,7 @@ public final class ShadySide {
         }
         walk.seekAll();
         walk.aim(minute, to, from);
-        walk.labelBack(minute, LAST);
+        walk.labelBack(minute, LAST, false);
         int best = FAR;
         for (int there = minute; there + stay <= LAST; there++) {
             int sun = walk.reached(there, to);
@@ -707,7 +706,14 @@ public final class ShadySide {
         }
 
         boolean has(int row, int square) {
-            return isSquare(square) && holds(row) && (words[2 * row + (square >> 6)] >>> (square & 63) & 1L) != 0;
+            int at = 2 * row + (square >> 6);
+            return square >= 0 && square < SQUARES && at >= 0 && at < words.length
+                    && (words[at] >>> (square & 63) & 1L) != 0;
+        }
+
+        /** One half of a row: the squares from 0 or from 64 on. */
+        long word(int row, int half) {
+            return holds(row) && half >= 0 && half < 2 ? words[2 * row + half] : 0L;
         }
 
         void put(int row, int square) {
@@ -717,9 +723,13 @@ public final class ShadySide {
         }
 
         void join(int row, Rows other, int otherRow) {
-            if (holds(row) && other.holds(otherRow)) {
-                words[2 * row] |= other.words[2 * otherRow];
-                words[2 * row + 1] |= other.words[2 * otherRow + 1];
+            joinHalf(row, 0, other.word(otherRow, 0));
+            joinHalf(row, 1, other.word(otherRow, 1));
+        }
+
+        void joinHalf(int row, int half, long squares) {
+            if (holds(row) && half >= 0 && half < 2) {
+                words[2 * row + half] |= squares;
             }
         }
 
@@ -1545,18 +1555,22 @@ public final class ShadySide {
         static final int CHEAPER = 1;
         /** The search ends with who comes first. */
         static final int FIRST = 2;
+        /** So it does here, and what a minute costs is heat. */
+        static final int BEARABLE = 3;
 
+        final Sky sky;
         final Rows dark = new Rows(MINUTES);
+        /** The squares to which the search has come in each minute: those in reach that are not FAR. */
+        final Rows live = new Rows(MINUTES);
         /** By minute and square: the least cost to be there. */
         final int[] reach = new int[MINUTES * SQUARES];
         /** By minute and square: the least label of the rest of the trip, or the most heat that may be there. */
         final int[] labels = new int[MINUTES * SQUARES];
-        /** By minute and square: what others there cost. */
-        final int[] extra = new int[MINUTES * SQUARES];
+        /** By minute and square: what others there cost; null without others. */
+        int[] extra;
         final Chain way = new Chain(MINUTES);
         /** The square of each minute of the way. */
         final int[] path = new int[MINUTES];
-        final Sky sky;
         Walker walker = new Walker();
         int day;
         int first;
@@ -1564,7 +1578,6 @@ public final class ShadySide {
         int to;
         int hot;
         int cool;
-        boolean heats;
         boolean waits;
         int aims;
         int most;
@@ -1581,7 +1594,6 @@ public final class ShadySide {
             day = ofDay;
             hot = 1;
             cool = 0;
-            heats = false;
             waits = true;
             takeShade();
         }
@@ -1614,74 +1626,105 @@ public final class ShadySide {
             search(LAST);
         }
 
+        void seekBearable() {
+            aims = BEARABLE;
+            most = walker.bears;
+            search(LAST);
+        }
+
         void seekAll() {
             aims = ALL;
             most = FAR - 1;
             search(LAST);
         }
 
-        /** From minute to minute, as no piece goes back in time. */
-        private boolean search(int by) {
+        /** Goes on from the live squares, beside what was kept: a trip that costs less than a limit. */
+        boolean seekOn(int limit) {
+            aims = CHEAPER;
+            most = limit - 1;
             arrival = NONE;
-            Arrays.fill(reach, FAR);
+            System.arraycopy(labels, 0, reach, 0, MINUTES * SQUARES);
+            return run(LAST);
+        }
+
+        private boolean search(int by) {
             int end = Math.min(by, LAST);
+            arrival = NONE;
+            live.empty();
+            Arrays.fill(reach, FAR);
             if (first <= end) {
                 offer(first, from, 0);
             }
+            return run(end);
+        }
+
+        /** From minute to minute, as no piece goes back in time. */
+        private boolean run(int end) {
             for (int minute = first; minute <= end && most >= 0; minute++) {
-                for (int square = 0; square < SQUARES; square++) {
-                    int spent = reach[minute * SQUARES + square];
-                    if (spent <= most && square != to) {
-                        goOn(minute, square, spent, end);
+                for (int half = 0; half < 2; half++) {
+                    long left = live.word(minute, half);
+                    for (int i = 0; i < 64 && left != 0; i++) {
+                        goOn(minute, 64 * half + Long.numberOfTrailingZeros(left), end);
+                        left &= left - 1;
                     }
                 }
             }
             return arrival != NONE;
         }
 
-        private void goOn(int minute, int square, int spent, int end) {
-            int soFar = after(spent, minute, square);
-            if (waits && minute < end) {
-                offer(minute + 1, square, soFar);
-            }
-            int comes = minute + walker.pace;
-            if (comes > end) {
+        private void goOn(int minute, int square, int end) {
+            int spent = reached(minute, square);
+            if (spent > most || square == to) {
                 return;
             }
-            for (int m = minute + 1; m < comes && soFar <= most; m++) {
-                soFar = after(soFar, m, square);
+            spent = after(spent, minute, square);
+            if (spent <= most && waits && minute < end) {
+                offer(minute + 1, square, spent);
             }
-            for (int piece = 0; piece < 4 && soFar <= most; piece++) {
+            int comes = minute + walker.pace;
+            for (int m = minute + 1; m < comes && spent <= most; m++) {
+                spent = after(spent, m, square);
+            }
+            if (spent <= most && comes <= end) {
+                stepOn(square, comes, spent);
+            }
+        }
+
+        private void stepOn(int square, int comes, int spent) {
+            for (int piece = 0; piece < 4; piece++) {
                 int goal = sky.nextTo(square, piece);
-                if (goal >= 0 && !isShut(comes, goal)) {
-                    offer(comes, goal, heats && sky.town.water.has(0, goal) ? 0 : soFar);
+                if (goal >= 0 && (sky.town.shutLines == 0 || !isShut(comes, goal))) {
+                    offer(comes, goal, aims == BEARABLE && sky.town.water.has(0, goal) ? 0 : spent);
                 }
             }
         }
 
         /** What it has cost behind a minute on a square; of heat how much there is then. */
         private int after(int spent, int minute, int square) {
-            boolean shady = dark.has(minute, square);
-            if (!heats) {
-                return spent + (shady ? cool : hot) + extraAt(minute, square);
+            if (aims != BEARABLE) {
+                return spent + priceOf(minute, square);
             }
-            int heat = shady ? Math.max(0, spent - walker.mends) : spent + 1;
+            int heat = dark.has(minute, square) ? Math.max(0, spent - walker.mends) : spent + 1;
             return heat > walker.bears ? FAR : heat;
         }
 
-        private void offer(int minute, int square, int spent) {
-            if (!isMinute(minute) || !isSquare(square)) {
-                return;
-            }
+        private int priceOf(int minute, int square) {
+            int price = dark.has(minute, square) ? cool : hot;
             int at = minute * SQUARES + square;
-            if (spent > most || spent >= reach[at]) {
+            return extra == null || at < 0 || at >= extra.length ? price : price + extra[at];
+        }
+
+        private void offer(int minute, int square, int spent) {
+            int at = minute * SQUARES + square;
+            if (spent > most || at < 0 || at >= reach.length || spent >= reach[at]) {
                 return;
             }
             reach[at] = spent;
+            live.put(minute, square);
             if (square == to) {
                 cost = spent;
                 arrival = minute;
-                most = aims == FIRST ? NONE : aims == CHEAPER ? spent - 1 : most;
+                most = aims == ALL ? most : aims == CHEAPER ? spent - 1 : NONE;
             }
         }
 
@@ -1690,27 +1733,25 @@ public final class ShadySide {
         }
 
         int reached(int minute, int square) {
-            return isMinute(minute) && isSquare(square) ? reach[minute * SQUARES + square] : FAR;
+            int at = minute * SQUARES + square;
+            return square < 0 || at < 0 || at >= reach.length ? FAR : reach[at];
         }
 
         int labelled(int minute, int square) {
-            return isMinute(minute) && isSquare(square) ? labels[minute * SQUARES + square] : FAR;
+            int at = minute * SQUARES + square;
+            return square < 0 || at < 0 || at >= labels.length ? FAR : labels[at];
         }
 
-        int extraAt(int minute, int square) {
-            return isMinute(minute) && isSquare(square) ? extra[minute * SQUARES + square] : 0;
-        }
-
-        /** What the next search finds does not change what this one has found. */
+        /** Keeps what a search has found beside what the next one finds. */
         void keepReached() {
-            System.arraycopy(reach, 0, labels, 0, reach.length);
+            System.arraycopy(reach, 0, labels, 0, MINUTES * SQUARES);
         }
 
         /** The i-th minute in which one comes with less than ever sooner, NONE if there are not so many. */
         int arrivalNumber(int i) {
             int left = i;
             for (int minute = first; minute <= LAST; minute++) {
-                if (reached(minute, to) < FAR) {
+                if (live.has(minute, to)) {
                     if (left == 0) {
                         return minute;
                     }
@@ -1724,48 +1765,68 @@ public final class ShadySide {
         int spent(int minute, int minutes, int square) {
             int sum = 0;
             for (int m = minute; m < minute + minutes; m++) {
-                sum += (dark.has(m, square) ? cool : hot) + extraAt(m, square);
+                sum += priceOf(m, square);
             }
             return sum;
         }
 
-        /** Labels every minute and square from a minute on with the best rest of a trip that comes by a minute. */
-        void labelBack(int begin, int by) {
-            for (int minute = Math.min(by, LAST); minute >= begin && minute >= 0; minute--) {
-                for (int square = 0; square < SQUARES; square++) {
-                    labels[minute * SQUARES + square] = square == to ? minute : bestLabel(minute, square, by);
+        /**
+         * Labels each minute and square from a minute on with the best rest of a trip that comes by a minute;
+         * on a way that was found only those can be that the search has come to.
+         */
+        void labelBack(int begin, int by, boolean found) {
+            int low = Math.max(0, begin);
+            int high = Math.min(by, LAST);
+            if (low > high) {
+                return;
+            }
+            Arrays.fill(labels, low * SQUARES, (high + 1) * SQUARES, FAR);
+            for (int minute = high; minute >= low; minute--) {
+                for (int half = 0; half < 2; half++) {
+                    long left = found ? live.word(minute, half) : sky.ground.word(0, half);
+                    for (int i = 0; i < 64 && left != 0; i++) {
+                        label(minute, 64 * half + Long.numberOfTrailingZeros(left), high);
+                        left &= left - 1;
+                    }
                 }
             }
         }
 
-        private int bestLabel(int minute, int square, int by) {
-            if (!sky.ground.has(0, square)) {
-                return FAR;
+        private void label(int minute, int square, int by) {
+            if (!isMinute(minute) || !isSquare(square)) {
+                return;
+            }
+            if (square == to) {
+                labels[minute * SQUARES + square] = minute;
+                return;
             }
             int best = FAR;
-            if (minute + walker.pace <= by) {
-                for (int piece = 0; piece < 4; piece++) {
-                    best = Math.min(best, labelBehind(minute, square, piece));
-                }
-                best = best < FAR ? best + LABEL * spent(minute, walker.pace, square) : FAR;
+            for (int piece = 0; piece < 4; piece++) {
+                best = Math.min(best, labelBehind(minute, square, piece, by));
+            }
+            if (best < FAR) {
+                best += LABEL * spent(minute, walker.pace, square);
             }
             if (minute < by && labelled(minute + 1, square) < FAR) {
-                best = Math.min(best, labelled(minute + 1, square) + LABEL * spent(minute, 1, square));
+                best = Math.min(best, labelled(minute + 1, square) + LABEL * priceOf(minute, square));
             }
-            return best;
+            labels[minute * SQUARES + square] = best;
         }
 
         /** The label where a step leads, FAR if it can't be. */
-        private int labelBehind(int minute, int square, int piece) {
-            int goal = sky.nextTo(square, piece);
+        private int labelBehind(int minute, int square, int piece, int by) {
             int comes = minute + walker.pace;
-            return goal < 0 || isShut(comes, goal) ? FAR : labelled(comes, goal);
+            int goal = comes > by ? NONE : sky.nextTo(square, piece);
+            if (goal < 0 || sky.town.shutLines > 0 && isShut(comes, goal)) {
+                return FAR;
+            }
+            return labelled(comes, goal);
         }
 
         /** Finds the way of what seekLeast has found: of all that cost as little the first in order. */
         void traceWay() {
             int by = arrival;
-            labelBack(first, by);
+            labelBack(first, by, true);
             beginWay();
             for (int i = 0; i < MINUTES && place != to && arrival < by; i++) {
                 goPiece(firstPiece(by));
@@ -1775,8 +1836,8 @@ public final class ShadySide {
         private int firstPiece(int by) {
             int label = labelled(arrival, place);
             int price = LABEL * spent(arrival, walker.pace, place);
-            for (int piece = 0; piece < 4 && arrival + walker.pace <= by; piece++) {
-                int rest = labelBehind(arrival, place, piece);
+            for (int piece = 0; piece < 4; piece++) {
+                int rest = labelBehind(arrival, place, piece, by);
                 if (rest < FAR && rest + price == label) {
                     return piece;
                 }
@@ -1945,6 +2006,8 @@ public final class ShadySide {
     private static final class Garden {
         final Walk walk;
         final Rows shadows = new Rows(SUN_LIMIT);
+        /** The squares to which one can come in each minute as it is. */
+        final Rows near = new Rows(MINUTES);
         int chosen;
         int best;
         int gain;
@@ -1958,15 +2021,38 @@ public final class ShadySide {
             chosen = choice;
             best = walk.cost;
             gain = 0;
+            walk.keepReached();
+            near.copy(walk.live, 0);
         }
 
         /** Keeps a choice if what the walk has now makes the least less. */
         private void weigh(int choice) {
-            if (walk.seekBelow(best, LAST)) {
+            if (helps()) {
                 gain += best - walk.cost;
                 best = walk.cost;
                 chosen = choice;
             }
+        }
+
+        /**
+         * Whether the shade that the walk has now makes the least less. All is as it was found, but for what
+         * comes behind a minute that one can have in the new shade: so the search goes on from there.
+         */
+        private boolean helps() {
+            walk.live.empty();
+            for (int minute = walk.first; minute < MINUTES; minute++) {
+                for (int more = minute; more < minute + walk.walker.pace; more++) {
+                    wake(minute, more, 0);
+                    wake(minute, more, 1);
+                }
+            }
+            return walk.seekOn(best);
+        }
+
+        /** Makes those live who may leave a square in a minute and have the new shade of another one. */
+        private void wake(int minute, int later, int half) {
+            long old = walk.sky.shades.word(row(walk.day, later), half);
+            walk.live.joinHalf(minute, half, walk.dark.word(later, half) & ~old & near.word(minute, half));
         }
 
         void tryTrees(int height) {
@@ -1998,7 +2084,7 @@ public final class ShadySide {
             begin(0);
             int all = (1 << walk.sky.town.places.size) - 1;
             addTrees(all, height);
-            int goal = walk.seekBelow(best, LAST) ? walk.cost : best;
+            int goal = helps() ? walk.cost : best;
             for (int size = 1; size <= many && best > goal; size++) {
                 for (int set = 1; set <= all && best > goal; set++) {
                     if (Integer.bitCount(set) == size) {
@@ -2041,6 +2127,8 @@ public final class ShadySide {
         final Walk walk;
         /** By member and minute: where one is, NONE where one is not yet or no more. */
         final int[] where = new int[CROWD_LIMIT * MINUTES];
+        /** By minute and square: what those there cost another one. */
+        final int[] crowding = new int[MINUTES * SQUARES];
         int members;
         int each;
         int by;
@@ -2058,7 +2146,8 @@ public final class ShadySide {
             members = Math.max(0, Math.min(n, CROWD_LIMIT));
             each = eachOther;
             by = byMinute;
-            Arrays.fill(walk.extra, 0);
+            Arrays.fill(crowding, 0);
+            walk.extra = crowding;
             boolean all = true;
             for (int member = 0; member < members && all; member++) {
                 all = choose(member, FAR);
@@ -2067,7 +2156,7 @@ public final class ShadySide {
                 chooseAnew();
                 addUp();
             }
-            Arrays.fill(walk.extra, 0);
+            walk.extra = null;
             return all;
         }
 
@@ -2104,19 +2193,19 @@ public final class ShadySide {
             for (int minute = 0; minute < MINUTES; minute++) {
                 int square = whereIs(member, minute);
                 if (isSquare(square)) {
-                    walk.extra[minute * SQUARES + square] += amount;
+                    crowding[minute * SQUARES + square] += amount;
                 }
             }
         }
 
-        /** The cost of a way beside what is in the extra of the walk. */
+        /** The cost of a way beside what crowds it. */
         private int costOf(int member, boolean sunAlone) {
             int sum = 0;
             for (int minute = 0; minute < MINUTES; minute++) {
                 int square = whereIs(member, minute);
                 if (isSquare(square)) {
                     sum += walk.dark.has(minute, square) ? 0 : 1;
-                    sum += sunAlone ? 0 : walk.extraAt(minute, square);
+                    sum += sunAlone ? 0 : crowding[minute * SQUARES + square];
                 }
             }
             return sum;
