@@ -221,7 +221,7 @@ public final class ShadySide {
         if (what == 1) {
             return walk.arrival;
         }
-        walk.traceWay();
+        takeWay();
         return walk.way.size;
     }
 
@@ -229,8 +229,14 @@ public final class ShadySide {
         if (i < 0 || !ready(walker, day, minute, from, to) || !walk.seekLeast(LAST)) {
             return NONE;
         }
-        walk.traceWay();
+        takeWay();
         return walk.way.at(i);
+    }
+
+    /** Goes the way of the least that the walk has just found. */
+    private void takeWay() {
+        walk.labelBack(walk.first, walk.arrival, true);
+        walk.traceWay();
     }
 
     public int soon(int walker, int day, int minute, int from, int to, int sun) {
@@ -332,7 +338,7 @@ public final class ShadySide {
         if (what < 0 || what > 3 || !ready(walker, day, minute, from, to) || !walk.seekLeast(LAST)) {
             throw new NoSuchElementException();
         }
-        walk.traceWay();
+        takeWay();
         int waited = walk.waitsOnWay();
         if (what == 0) {
             return waited;
@@ -663,7 +669,7 @@ public final class ShadySide {
         }
 
         int last() {
-            return at(size - 1);
+            return size < 1 || size > items.length ? NONE : items[size - 1];
         }
 
         void dropLast() {
@@ -717,9 +723,15 @@ public final class ShadySide {
         }
 
         void put(int row, int square) {
-            if (isSquare(square) && holds(row)) {
-                words[2 * row + (square >> 6)] |= 1L << (square & 63);
+            int at = 2 * row + (square >> 6);
+            if (square >= 0 && square < SQUARES && at >= 0 && at < words.length) {
+                words[at] |= 1L << (square & 63);
             }
+        }
+
+        /** The lowest of a half's squares, counted from the half's first one. */
+        static int lowest(long squares) {
+            return Long.bitCount((squares & -squares) - 1);
         }
 
         void join(int row, Rows other, int otherRow) {
@@ -844,8 +856,12 @@ public final class ShadySide {
             awnings.copy(other.awnings, 0);
             shuts.copy(other.shuts, 0);
             water.copy(other.water, 0);
-            System.arraycopy(other.suns, 0, suns, 0, SUN_LIMIT);
-            System.arraycopy(other.walkers, 0, walkers, 0, WALKER_LIMIT);
+            for (int i = 0; i < SUN_LIMIT; i++) {
+                suns[i] = other.suns[i];
+            }
+            for (int i = 0; i < WALKER_LIMIT; i++) {
+                walkers[i] = other.walkers[i];
+            }
             places.copy(other.places);
             procession.copy(other.procession);
             told.copy(other.told);
@@ -937,7 +953,10 @@ public final class ShadySide {
 
         /** Takes one more token: 0, or the kind of its fault. */
         int take(int token, int number) {
-            return wantsPart ? takePart(token, number) : takeLink(token);
+            if (wantsPart) {
+                return takePart(token, number);
+            }
+            return token == Reader.CLOSE ? takeClose() : takeLink(token);
         }
 
         private int takePart(int token, int number) {
@@ -960,9 +979,6 @@ public final class ShadySide {
         }
 
         private int takeLink(int token) {
-            if (token == Reader.CLOSE) {
-                return takeClose();
-            }
             int rank = rank(token);
             if (rank == 0) {
                 return 1;
@@ -1126,12 +1142,16 @@ public final class ShadySide {
         static final int NO_TOKEN = 52;
 
         final Chain tape = new Chain(TAPE_LIMIT);
+        /** The tokens of the tape and its end, each with its number (0 without) and its place. */
+        final Chain tokens = new Chain(TAPE_LIMIT + 1);
+        final Chain values = new Chain(TAPE_LIMIT + 1);
+        final Chain places = new Chain(TAPE_LIMIT + 1);
         final Formula formula = new Formula();
         Town town;
+        int ahead;
         int token;
         int value;
         int place;
-        int ahead;
         int number;
         int numberPlace;
         int site;
@@ -1146,6 +1166,7 @@ public final class ShadySide {
             town = into;
             town.empty();
             fault = 0;
+            scan();
             ahead = 0;
             advance();
             for (int lines = 0; lines < TAPE_LIMIT && token != END; lines++) {
@@ -1200,8 +1221,19 @@ public final class ShadySide {
                 return wrong(5, place);
             }
             advance();
-            if (!readSite() || !expect(WHEN) || !readFormula()) {
+            if (!readSite() || !expect(WHEN)) {
                 return false;
+            }
+            formula.begin();
+            for (int i = 0; i <= TAPE_LIMIT && token != SEMICOLON; i++) {
+                int kind = formula.take(token, value);
+                if (kind != 0) {
+                    return wrong(kind, place);
+                }
+                advance();
+            }
+            if (!formula.ends()) {
+                return wrong(1, place);
             }
             if (awning) {
                 town.awningLines++;
@@ -1221,18 +1253,6 @@ public final class ShadySide {
                     }
                 }
             }
-        }
-
-        private boolean readFormula() {
-            formula.begin();
-            for (int i = 0; i <= TAPE_LIMIT && token != SEMICOLON; i++) {
-                int kind = formula.take(token, value);
-                if (kind != 0) {
-                    return wrong(kind, place);
-                }
-                advance();
-            }
-            return formula.ends() || wrong(1, place);
         }
 
         private boolean readWater() {
@@ -1349,34 +1369,54 @@ public final class ShadySide {
             return false;
         }
 
+        /** Goes on to the next token; behind the end it stays at the end. */
         private void advance() {
-            for (int i = 0; i < TAPE_LIMIT && isBlank(tape.at(ahead)); i++) {
-                ahead++;
-            }
-            place = ahead;
-            int sign = tape.at(ahead);
-            if (sign == NONE) {
-                token = END;
-            } else if (isLetter(sign)) {
-                takeWord();
-            } else if (isDigit(sign)) {
-                takeNumber();
-            } else {
-                int which = SIGNS.indexOf((char) sign);
-                token = which < 0 ? NO_TOKEN : OPEN + which;
-                ahead++;
-            }
+            token = ahead < tokens.size ? tokens.at(ahead) : END;
+            value = values.at(ahead);
+            place = ahead < places.size ? places.at(ahead) : tape.size;
+            ahead++;
         }
 
-        private void takeWord() {
-            for (int i = 0; i < TAPE_LIMIT && isLetter(tape.at(ahead)); i++) {
-                ahead++;
+        /** Finds the tokens of the whole tape. */
+        private void scan() {
+            tokens.empty();
+            values.empty();
+            places.empty();
+            int at = 0;
+            for (int i = 0; i <= TAPE_LIMIT && at < tape.size; i++) {
+                int sign = tape.at(at);
+                if (isBlank(sign)) {
+                    at++;
+                } else if (isLetter(sign)) {
+                    at = scanWord(at);
+                } else if (isDigit(sign)) {
+                    at = scanNumber(at);
+                } else {
+                    int which = SIGNS.indexOf((char) sign);
+                    addToken(which < 0 ? NO_TOKEN : OPEN + which, 0, at);
+                    at++;
+                }
             }
-            token = wordOnTape(place, ahead - place);
+            addToken(END, 0, tape.size);
+        }
+
+        private void addToken(int kind, int number, int at) {
+            tokens.add(kind);
+            values.add(number);
+            places.add(at);
+        }
+
+        private int scanWord(int at) {
+            int end = at;
+            for (int i = 0; i < TAPE_LIMIT && isLetter(tape.at(end)); i++) {
+                end++;
+            }
+            addToken(wordOnTape(at, end - at), 0, at);
+            return end;
         }
 
         /** Which word the letters from a place on are; all that are longer than a word are no word. */
-        private int wordOnTape(int from, int length) {
+        private int wordOnTape(int at, int length) {
             int word = 0;
             int same = 0;
             for (int i = 0; i <= WORDS.length(); i++) {
@@ -1388,19 +1428,21 @@ public final class ShadySide {
                     word++;
                     same = 0;
                 } else if (same != NONE) {
-                    same = same < length && tape.at(from + same) == letter ? same + 1 : NONE;
+                    same = same < length && tape.at(at + same) == letter ? same + 1 : NONE;
                 }
             }
             return NO_TOKEN;
         }
 
-        private void takeNumber() {
-            value = 0;
-            for (int i = 0; i < TAPE_LIMIT && isDigit(tape.at(ahead)); i++) {
-                value = i < LONGEST_NUMBER ? 10 * value + tape.at(ahead) - '0' : value;
-                ahead++;
+        private int scanNumber(int at) {
+            int end = at;
+            int sum = 0;
+            for (int i = 0; i < TAPE_LIMIT && isDigit(tape.at(end)); i++) {
+                sum = i < LONGEST_NUMBER ? 10 * sum + tape.at(end) - '0' : sum;
+                end++;
             }
-            token = ahead - place > LONGEST_NUMBER ? NO_TOKEN : NUMBER;
+            addToken(end - at > LONGEST_NUMBER ? NO_TOKEN : NUMBER, sum, at);
+            return end;
         }
 
         private static boolean isBlank(int sign) {
@@ -1595,6 +1637,7 @@ public final class ShadySide {
             hot = 1;
             cool = 0;
             waits = true;
+            aims = ALL;
             takeShade();
         }
 
@@ -1611,31 +1654,28 @@ public final class ShadySide {
 
         /** The least cost of a trip, with it the soonest minute. */
         boolean seekLeast(int by) {
-            return seekBelow(FAR, by);
+            begin(CHEAPER, FAR - 1, by);
+            return run(by);
         }
 
         boolean seekBelow(int limit, int by) {
-            aims = CHEAPER;
-            most = limit - 1;
-            return search(by);
+            begin(CHEAPER, limit - 1, by);
+            return run(by);
         }
 
         void seekFirst(int limit) {
-            aims = FIRST;
-            most = limit;
-            search(LAST);
+            begin(FIRST, limit, LAST);
+            run(LAST);
         }
 
         void seekBearable() {
-            aims = BEARABLE;
-            most = walker.bears;
-            search(LAST);
+            begin(BEARABLE, walker.bears, LAST);
+            run(LAST);
         }
 
         void seekAll() {
-            aims = ALL;
-            most = FAR - 1;
-            search(LAST);
+            begin(ALL, FAR - 1, LAST);
+            run(LAST);
         }
 
         /** Goes on from the live squares, beside what was kept: a trip that costs less than a limit. */
@@ -1647,24 +1687,25 @@ public final class ShadySide {
             return run(LAST);
         }
 
-        private boolean search(int by) {
-            int end = Math.min(by, LAST);
+        private void begin(int aim, int limit, int by) {
+            aims = aim;
+            most = limit;
             arrival = NONE;
             live.empty();
             Arrays.fill(reach, FAR);
-            if (first <= end) {
+            if (first <= by) {
                 offer(first, from, 0);
             }
-            return run(end);
         }
 
         /** From minute to minute, as no piece goes back in time. */
-        private boolean run(int end) {
+        private boolean run(int by) {
+            int end = Math.min(by, LAST);
             for (int minute = first; minute <= end && most >= 0; minute++) {
                 for (int half = 0; half < 2; half++) {
                     long left = live.word(minute, half);
                     for (int i = 0; i < 64 && left != 0; i++) {
-                        goOn(minute, 64 * half + Long.numberOfTrailingZeros(left), end);
+                        goOn(minute, 64 * half + Rows.lowest(left), end);
                         left &= left - 1;
                     }
                 }
@@ -1685,13 +1726,7 @@ public final class ShadySide {
             for (int m = minute + 1; m < comes && spent <= most; m++) {
                 spent = after(spent, m, square);
             }
-            if (spent <= most && comes <= end) {
-                stepOn(square, comes, spent);
-            }
-        }
-
-        private void stepOn(int square, int comes, int spent) {
-            for (int piece = 0; piece < 4; piece++) {
+            for (int piece = 0; piece < 4 && spent <= most && comes <= end; piece++) {
                 int goal = sky.nextTo(square, piece);
                 if (goal >= 0 && (sky.town.shutLines == 0 || !isShut(comes, goal))) {
                     offer(comes, goal, aims == BEARABLE && sky.town.water.has(0, goal) ? 0 : spent);
@@ -1701,17 +1736,14 @@ public final class ShadySide {
 
         /** What it has cost behind a minute on a square; of heat how much there is then. */
         private int after(int spent, int minute, int square) {
-            if (aims != BEARABLE) {
-                return spent + priceOf(minute, square);
+            boolean shady = dark.has(minute, square);
+            if (aims == BEARABLE) {
+                int heat = shady ? Math.max(0, spent - walker.mends) : spent + 1;
+                return heat > walker.bears ? FAR : heat;
             }
-            int heat = dark.has(minute, square) ? Math.max(0, spent - walker.mends) : spent + 1;
-            return heat > walker.bears ? FAR : heat;
-        }
-
-        private int priceOf(int minute, int square) {
-            int price = dark.has(minute, square) ? cool : hot;
             int at = minute * SQUARES + square;
-            return extra == null || at < 0 || at >= extra.length ? price : price + extra[at];
+            int others = extra == null || at < 0 || at >= extra.length ? 0 : extra[at];
+            return spent + (shady ? cool : hot) + others;
         }
 
         private void offer(int minute, int square, int spent) {
@@ -1765,7 +1797,7 @@ public final class ShadySide {
         int spent(int minute, int minutes, int square) {
             int sum = 0;
             for (int m = minute; m < minute + minutes; m++) {
-                sum += priceOf(m, square);
+                sum = after(sum, m, square);
             }
             return sum;
         }
@@ -1774,8 +1806,8 @@ public final class ShadySide {
          * Labels each minute and square from a minute on with the best rest of a trip that comes by a minute;
          * on a way that was found only those can be that the search has come to.
          */
-        void labelBack(int begin, int by, boolean found) {
-            int low = Math.max(0, begin);
+        void labelBack(int start, int by, boolean found) {
+            int low = Math.max(0, start);
             int high = Math.min(by, LAST);
             if (low > high) {
                 return;
@@ -1785,7 +1817,7 @@ public final class ShadySide {
                 for (int half = 0; half < 2; half++) {
                     long left = found ? live.word(minute, half) : sky.ground.word(0, half);
                     for (int i = 0; i < 64 && left != 0; i++) {
-                        label(minute, 64 * half + Long.numberOfTrailingZeros(left), high);
+                        label(minute, 64 * half + Rows.lowest(left), high);
                         left &= left - 1;
                     }
                 }
@@ -1808,7 +1840,7 @@ public final class ShadySide {
                 best += LABEL * spent(minute, walker.pace, square);
             }
             if (minute < by && labelled(minute + 1, square) < FAR) {
-                best = Math.min(best, labelled(minute + 1, square) + LABEL * priceOf(minute, square));
+                best = Math.min(best, labelled(minute + 1, square) + LABEL * after(0, minute, square));
             }
             labels[minute * SQUARES + square] = best;
         }
@@ -1823,10 +1855,9 @@ public final class ShadySide {
             return labelled(comes, goal);
         }
 
-        /** Finds the way of what seekLeast has found: of all that cost as little the first in order. */
+        /** Goes the way of the least that was found and labelled: of all that cost as little the first in order. */
         void traceWay() {
             int by = arrival;
-            labelBack(first, by, true);
             beginWay();
             for (int i = 0; i < MINUTES && place != to && arrival < by; i++) {
                 goPiece(firstPiece(by));
@@ -2025,13 +2056,10 @@ public final class ShadySide {
             near.copy(walk.live, 0);
         }
 
-        /** Keeps a choice if what the walk has now makes the least less. */
-        private void weigh(int choice) {
-            if (helps()) {
-                gain += best - walk.cost;
-                best = walk.cost;
-                chosen = choice;
-            }
+        private void choose(int choice) {
+            gain += best - walk.cost;
+            best = walk.cost;
+            chosen = choice;
         }
 
         /**
@@ -2061,7 +2089,9 @@ public final class ShadySide {
                 if (walk.sky.town.isBare(square)) {
                     walk.takeShade();
                     addTree(square, height);
-                    weigh(square);
+                    if (helps()) {
+                        choose(square);
+                    }
                 }
             }
         }
@@ -2074,7 +2104,9 @@ public final class ShadySide {
                     for (int minute = 0; minute < MINUTES; minute++) {
                         walk.dark.put(minute, square);
                     }
-                    weigh(square);
+                    if (helps()) {
+                        choose(square);
+                    }
                 }
             }
         }
@@ -2089,7 +2121,9 @@ public final class ShadySide {
                 for (int set = 1; set <= all && best > goal; set++) {
                     if (Integer.bitCount(set) == size) {
                         addTrees(set, height);
-                        weigh(set);
+                        if (helps()) {
+                            choose(set);
+                        }
                     }
                 }
             }
@@ -2152,16 +2186,7 @@ public final class ShadySide {
             for (int member = 0; member < members && all; member++) {
                 all = choose(member, FAR);
             }
-            if (all) {
-                chooseAnew();
-                addUp();
-            }
-            walk.extra = null;
-            return all;
-        }
-
-        private void chooseAnew() {
-            boolean changed = true;
+            boolean changed = all;
             rounds = 0;
             for (int i = 0; i < MANY_ROUNDS && changed; i++) {
                 changed = false;
@@ -2175,6 +2200,11 @@ public final class ShadySide {
                 }
                 rounds++;
             }
+            if (all) {
+                addUp();
+            }
+            walk.extra = null;
+            return all;
         }
 
         /** Takes the best way that costs less than a limit, if there is one. */
@@ -2182,6 +2212,7 @@ public final class ShadySide {
             if (!walk.seekBelow(limit, by)) {
                 return false;
             }
+            walk.labelBack(walk.first, walk.arrival, true);
             walk.traceWay();
             System.arraycopy(walk.path, 0, where, member * MINUTES, MINUTES);
             crowdOut(member, each);

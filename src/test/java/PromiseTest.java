@@ -54,6 +54,7 @@ public final class PromiseTest {
         edges();
         mark();
         count();
+        oneAfterAnother();
         Check.end();
     }
 
@@ -748,6 +749,43 @@ public final class PromiseTest {
         counts(x, second);
         Check.due("laid once more", x.mark(0, false) && x.mark(3, true) && x.mark(0, true), true);
         counts(x, second);
+    }
+
+    /** What one call looks for does not stay for the next one: each two of them, in each order. */
+    private static void oneAfterAnother() {
+        for (int first = 0; first < 20; first++) {
+            for (int second = 0; second < 20; second++) {
+                String text = ARCADES + "house 9 9 5;water 1 1;awning 4 4 when minute=71;";
+                ShadySide x = Check.made(text);
+                ask(x, first);
+                Check.due(second + " behind " + first, ask(x, second), ask(Check.made(text), second));
+            }
+        }
+    }
+
+    private static long ask(ShadySide x, int call) {
+        switch (call) {
+            case 0: return x.least(0, 0, 3, 0, 3, 2);
+            case 1: return x.piece(0, 0, 3, 0, 3, 4);
+            case 2: return x.soon(0, 0, 3, 0, 3, 2);
+            case 3: return x.both(0, 0, 3, 0, 3, 1, 1);
+            case 4: return x.bears(2, 0, 3, 0, 3);
+            case 5: return x.hours(2, 0, 0, 3);
+            case 6: return x.ice(0, 0, 3, 0, 3);
+            case 7: return x.pays(0, 0, 3, 0, 3);
+            case 8: return x.guessed(0, 0, 3, 0, 3, 4, 9, 0);
+            case 9: return x.crowd(0, 0, 3, 0, 3, 119, 3, 4, 0);
+            case 10: return x.plant(0, 0, 3, 4, 8, 9, 0);
+            case 11: return x.cover(1, 0, 3, 4, 8, 0);
+            case 12: return x.dark(1, 2, 44, 45, 0);
+            case 13: return x.leave(1, 2, 70, 70, 44, 45, 1);
+            case 14: return x.errand(0, 0, 3, 0, 3, 4, 0);
+            case 15: return x.meet(0, 0, 1, 3, 0, 3, 1);
+            case 16: return x.keeps(0, 0, 3, 0, 3, 99);
+            case 17: return x.price(0, 0, 3, 0, 3, 119, 3, 4);
+            case 18: return x.rests(0, 0, 3, 0, 3, 3);
+            default: return x.judged(0, 0, 3, 0, 5);
+        }
     }
 
     private static void counts(ShadySide x, int[] due) {
