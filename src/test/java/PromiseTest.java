@@ -407,6 +407,7 @@ public final class PromiseTest {
         Check.due("to the north of it", x.plant(0, 0, 0, 11, 12, 2, 0), 1);
         Check.due("by one", x.plant(0, 0, 0, 11, 12, 2, 1), 1);
         Check.due("too low but for its own square", x.plant(0, 0, 0, 11, 12, 1, 0), 11);
+        Check.due("as high as can be", x.plant(0, 0, 0, 81, 82, 99, 0), 1);
         Check.due("nothing to make less", x.plant(0, 1, 0, 11, 12, 9, 0), -1);
         Check.due("by nothing", x.plant(0, 1, 0, 11, 12, 9, 1), 0);
         Check.due("at once", x.plant(0, 0, 0, 11, 11, 9, 0), -1);
@@ -437,6 +438,7 @@ public final class PromiseTest {
         Check.due("of two, none is left", x.spots(0, 0, 0, 11, 13, 2, 8, 1), 0);
         Check.due("of low ones", x.spots(0, 0, 0, 11, 13, 1, 8, 0), 2 + 8);
         Check.due("none is needed", x.spots(0, 1, 0, 11, 13, 1, 8, 0), 0);
+        Check.due("of high ones", x.spots(0, 0, 0, 11, 13, 99, 8, 0), 2 + 4);
         Check.due("nothing is planted", x.count(1), 1);
         for (int[] w : new int[][] {{0, 1, 0}, {100, 1, 0}, {5, 0, 0}, {5, 9, 0}, {5, 1, -1}, {5, 1, 2}}) {
             Check.none("spots of wrong", () -> x.spots(0, 0, 0, 11, 13, w[0], w[1], w[2]));
