@@ -45,6 +45,12 @@ public final class LanguageTest {
         fault("housE 1 2 3;", 1, 0);
         fault("houses 1 2 3;", 1, 0);
         fault("hous 1 2 3;", 1, 0);
+        fault("housez 1 2 3;", 1, 0);
+        fault("house 1 2 3z;", 1, 11);
+        fault("house 1 2 3 ;{", 1, 13);
+        fault("house 1 2 3 ;`", 1, 13);
+        fault("house 1 2 3 ;/", 1, 13);
+        fault("house 1 2 3 ;:", 1, 13);
         fault("house 1, 2 3;", 1, 7);
         fault("house 1 2 3;#", 1, 12);
         fault("house\n1\n2\n3\n;\n", 0, 0);

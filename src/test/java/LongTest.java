@@ -6,6 +6,7 @@ public final class LongTest {
     private static final int SEEDS = 160;
 
     private final Texts texts;
+    private final boolean patched;
     private final String text;
     private final ShadySide x;
     private final Model model;
@@ -19,9 +20,10 @@ public final class LongTest {
 
     private LongTest(int seed) {
         texts = new Texts(7000 + seed);
-        String told = texts.town(seed % 2 == 0);
-        for (int i = 0; i < 100 && told.length() > 940; i++) {
-            told = texts.town(seed % 2 == 0);
+        patched = seed % 2 == 0;
+        String told = patched ? texts.patchwork(false) : texts.town(seed % 4 == 1);
+        for (int i = 0; i < 100 && told.length() > 920; i++) {
+            told = patched ? texts.patchwork(false) : texts.town(seed % 4 == 1);
         }
         text = told;
         x = Check.made(text);
@@ -53,8 +55,8 @@ public final class LongTest {
             w = model.walkers[walker];
             day = texts.upTo(3);
             minute = texts.once(2) ? 0 : texts.upTo(110);
-            from = texts.upTo(99);
-            to = texts.upTo(99);
+            from = patched ? near(model.shuts.isEmpty() ? 44 : model.shuts.get(0).square()) : texts.upTo(99);
+            to = patched ? near(from) : texts.upTo(99);
             asked = walker + " " + day + " " + minute + " " + from + " " + to;
             if (w != null && model.kind[from] != 1 && model.kind[to] != 1
                     && model.lines.stream().anyMatch(line -> line.day() == day)) {
@@ -62,6 +64,12 @@ public final class LongTest {
             }
         }
         return false;
+    }
+
+    private int near(int square) {
+        int px = Math.max(0, Math.min(9, square % 10 + texts.between(-3, 3)));
+        int py = Math.max(0, Math.min(9, square / 10 + texts.between(-3, 3)));
+        return 10 * py + px;
     }
 
     /** What a minute makes of the value so far; below 0 it can't be. */

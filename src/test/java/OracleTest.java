@@ -6,7 +6,7 @@ import java.util.List;
 public final class OracleTest {
     /** Stands for a NoSuchElementException. */
     private static final int THROWN = -99;
-    private static final int SEEDS = 400;
+    private static final int SEEDS = 500;
 
     private final Texts texts;
     private final String text;
@@ -17,8 +17,7 @@ public final class OracleTest {
 
     private OracleTest(int seed) {
         texts = new Texts(seed);
-        boolean dense = seed % 4 != 0;
-        text = texts.town(dense);
+        text = seed % 2 == 0 ? texts.patchwork(true) : texts.town(seed % 4 != 1);
         x = Check.made(text);
         model = Model.read(text);
         corner = cornerOf();

@@ -53,6 +53,7 @@ public final class PromiseTest {
         broad();
         edges();
         mark();
+        wholeMark();
         count();
         oneAfterAnother();
         Check.end();
@@ -147,6 +148,7 @@ public final class PromiseTest {
             Check.due("shade of wrong", x.shade(w[0], w[1], w[2]), -1);
             Check.due("shutAt of wrong", x.shutAt(w[0], w[1], w[2]), -1);
             Check.due("when of wrong", x.when(w[0], w[1], w[2], true), -1);
+            Check.due("when of wrong", x.when(w[0], w[1], w[2], false), -1);
         }
     }
 
@@ -788,6 +790,36 @@ public final class PromiseTest {
             case 18: return x.rests(0, 0, 3, 0, 3, 3);
             default: return x.judged(0, 0, 3, 0, 5);
         }
+    }
+
+    /** A mark holds each thing that a town has, and nothing of the one that is told behind it. */
+    private static void wholeMark() {
+        String text = ARCADES + "house 9 9 5;water 6 0;shut 5 5 when 1;awning 6 6 when 1;tree 7 7 2;";
+        String other = "sun 1 from 0 south 1 over 9;sun 2 from 0 south 1 over 9;water 5 0;water 7 0;house 0 0 9;"
+                + "shut 4 4 when 1;awning 3 3 when 1;walker 5 pace 1 bears 1 mends 1 ice 1 hot 1 cool 1;";
+        ShadySide x = Check.made(text);
+        ShadySide y = Check.made(text);
+        x.mark(2, false);
+        Check.due("another town", Check.town(x, other), 0);
+        x.mark(1, false);
+        Check.due("back", x.mark(2, true), true);
+        for (int s = 0; s < 100; s++) {
+            Check.due("what is on " + s, x.square(s, 0), y.square(s, 0));
+            for (int day = 0; day < 4; day++) {
+                Check.due("shade", x.shade(day, 60, s), y.shade(day, 60, s));
+                Check.due("shut", x.shutAt(day, 60, s), y.shutAt(day, 60, s));
+            }
+        }
+        for (int what = 0; what < 12; what++) {
+            Check.due("count " + what, x.count(what), y.count(what));
+        }
+        Check.due("the water", x.bears(0, 0, 0, 4, 8), 4);
+        Check.due("its walkers alone", x.hours(5, 0, 0, 1), -1);
+        x.pull(99);
+        Check.due("the mark has the house still", x.mark(2, true) && x.square(99, 1) == 5, true);
+        Check.due("the other mark", x.mark(1, true), true);
+        Check.due("its walker", x.hours(5, 3, 8, 9), 119);
+        Check.due("its sun", x.shade(1, 0, 50), 0);
     }
 
     private static void counts(ShadySide x, int[] due) {

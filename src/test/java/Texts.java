@@ -71,6 +71,39 @@ final class Texts {
         return text.length() <= 1000 ? text : town(dense);
     }
 
+    /** A small part of the town where shade and what is shut change from minute to minute: there waits pay. */
+    String patchwork(boolean late) {
+        tokens.clear();
+        int corner = upTo(6);
+        for (int i = 0; i < 16; i++) {
+            int x = corner + i % 4;
+            int y = corner + i / 4;
+            int kind = upTo(9);
+            if (kind < 2) {
+                add("arcade", x, y, ";");
+            } else if (kind == 2) {
+                add(once(2) ? "house" : "tree", x, y, between(1, 9), ";");
+            }
+        }
+        for (int i = between(6, 10); i > 0; i--) {
+            int begin = late ? between(107, 117) : upTo(110);
+            int end = begin + between(2, late ? 6 : 30);
+            add(once(3) ? "shut" : "awning", corner + upTo(3), corner + upTo(3), "when", begin, "<", "minute", "and",
+                    "minute", "<", end, ";");
+        }
+        add("water", corner + upTo(3), corner + upTo(3), ";");
+        for (int day = 0; day < 4; day++) {
+            add("sun", day, "from", once(2) ? 0 : upTo(110), Model.DIRECTIONS.get(upTo(7)), between(1, 9), "over",
+                    between(1, 9), ";");
+        }
+        for (int n = 0; n < 4; n++) {
+            add("walker", n, "pace", once(2) ? 1 : between(2, 3), "bears", between(1, 5), "mends", between(1, 3), "ice",
+                    upTo(99), "hot", upTo(9), "cool", upTo(5), ";");
+        }
+        String text = joined();
+        return text.length() <= 1000 ? text : patchwork(late);
+    }
+
     private void building(int x, int y) {
         int kind = upTo(4);
         if (kind == 4) {
