@@ -37,6 +37,7 @@ public final class BoundaryTest {
             edges(row);
         }
         refusedTowns();
+        toldAnew();
         atOnce();
         tape();
         fullTape();
@@ -321,6 +322,53 @@ public final class BoundaryTest {
             Check.due("the fault of ab", y.town(), 1);
             Check.due("a fault of " + text, Check.town(x, text) > 0, true);
             Check.due("all is as it was behind " + text, tale(x).equals(tale(y)), true);
+        }
+    }
+
+    /** "all else that was told is as at first, but MARKS; at first it is empty": nothing of an old town is left. */
+    private static void toldAnew() {
+        StringBuilder full = new StringBuilder(SUNNY);
+        for (int i = 0; i < 10; i++) {
+            full.append("house ").append(i).append(" 0 9;arcade ").append(i).append(" 1;tree ").append(i).append(" 9 9;");
+            full.append(i < 9 ? "awning " + i + " 5 when 1;shut " + i + " 6 when 1;" : "");
+        }
+        for (String water : new String[] {"", "water 3 4;"}) {
+            ShadySide x = new ShadySide();
+            for (int i = 0; i < 3; i++) {
+                Check.due("full", Check.town(x, full + water), 0);
+                for (int s = 20; s < 28; s++) {
+                    Check.due("spot", x.spot(s), s - 20);
+                }
+                x.follow(44);
+                x.tell(2);
+            }
+            Check.due("a fault behind many lines", Check.town(x, full + "water 3 4;awning 1 1 when ((1+2<3 and"),
+                    1 + 16 * (full.length() + 37));
+            x.mark(1, false);
+            Check.due("another town", Check.town(x, TOWN), 0);
+            ShadySide y = Check.made(TOWN);
+            y.mark(1, false);
+            for (int what = 0; what < 12; what++) {
+                Check.due("count " + what, x.count(what), y.count(what));
+            }
+            for (int s = 0; s < 100; s++) {
+                Check.due("what is on " + s, x.square(s, 0), y.square(s, 0));
+                Check.due("height on " + s, x.square(s, 1), y.square(s, 1));
+            }
+            Check.due("dim", x.dim(0, 60), y.dim(0, 60));
+            for (int s = 50; s < 70; s++) {
+                Check.due("shut " + s, x.shutAt(0, 0, s), 0);
+                Check.due("shade " + s, x.shade(0, 60, s), y.shade(0, 60, s));
+            }
+            Check.due("no water is left", x.bears(0, 0, 60, 40, 45), -1);
+            Check.due("no water is left", x.hours(0, 0, 40, 45), 59);
+        }
+        String many = "awning 4 4 when 0<1 and day;".repeat(20);
+        ShadySide z = new ShadySide();
+        for (int i = 0; i < 9; i++) {
+            Check.due("20 lines each time", Check.town(z, many + SUNNY), 0);
+            Check.due("day 0", z.shade(0, 0, 44), 0);
+            Check.due("day 1", z.shade(1, 0, 44), 1);
         }
     }
 
@@ -665,6 +713,10 @@ public final class BoundaryTest {
             Check.due("in time", x.piece(w, 0, 119 - pace, 44, 45, 0), 1);
             Check.due("the end of the way", x.piece(w, 0, 119 - pace, 44, 45, 1), -1);
         }
+        ShadySide y = Check.made(WALKERS + "house 4 6 1;house 5 6 1;house 6 6 1;house 7 6 1;house 8 6 1;house 9 6 1;"
+                + "house 0 7 1;house 1 7 1;house 2 7 1;shut 3 7 when minute<40;");
+        Check.due("one way out of most squares, late", y.least(0, 0, 0, 0, 99, 1), 48);
+        Check.due("in the last minute", y.least(0, 0, 110, 1, 73, 1), 119);
         int[][] corners = {{0, 1, 10}, {9, 8, 19}, {90, 91, 80}, {99, 98, 89}};
         for (int[] c : corners) {
             for (int goal = 0; goal < 100; goal++) {
@@ -1015,9 +1067,22 @@ public final class BoundaryTest {
             Check.none("nowhere " + what, () -> x.meet(0, 90, 0, 99, 0, 0, w));
             Check.none("no time for two steps each " + what, () -> x.meet(0, 99, 5, 79, 0, 119, w));
         }
+        meetBeyond();
         Check.due("the slow one waits for the quick one", x.meet(2, 98, 0, 99, 0, 118, 0), slow[0] - 1);
         Check.due("in the last minute", x.meet(2, 98, 0, 99, 0, 118, 1), slow[1]);
         Check.due("where the slow one is", x.meet(2, 98, 0, 99, 0, 118, 2), slow[2]);
+    }
+
+    /** One goes through the SQUARE from which the other one has gone, as the shade lies behind it. */
+    private static void meetBeyond() {
+        ShadySide x = Check.made("sun 0 from 0 north 9 over 1;arcade 0 0;arcade 1 0;arcade 2 0;arcade 3 0;arcade 4 0;"
+                + "arcade 8 0;house 4 1 1;house 5 1 1;house 6 1 1;house 7 1 1;house 8 1 1;house 9 1 1;"
+                + "shut 5 0 when minute<10;shut 6 0 when not minute=11;" + WALKERS);
+        int[] due = {8, 12, 7};
+        for (int what = 0; what < 3; what++) {
+            Check.due("beyond " + what, x.meet(0, 0, 2, 6, 0, 0, what), due[what]);
+            Check.due("beyond, told the other way round " + what, x.meet(2, 6, 0, 0, 0, 0, what), due[what]);
+        }
     }
 
     private static void cover() {
