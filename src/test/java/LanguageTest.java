@@ -174,6 +174,15 @@ public final class LanguageTest {
         fault("awning 0 0 when not not not not not not 1;", 5, 36);
         fault("awning 0 0 when not not not not not;", 1, 35);
         fault("awning 0 0 when not not not not not +;", 1, 36);
+        for (String none : new String[] {";", ")", "?", "when", "house", "12345", "minutes", "and", "<", ""}) {
+            fault("awning 0 0 when not not not not not " + none, 1, 36);
+            fault("awning 0 0 when (not (not (" + none, 1, 27);
+        }
+        for (String part : new String[] {"1", "9999", "minute", "day", "not", "("}) {
+            fault("awning 0 0 when not not not not not " + part, 5, 36);
+            fault("awning 0 0 when (not (not (" + part, 5, 27);
+            fault("awning 0 0 when (not (not " + part, 1, 26 + part.length());
+        }
         fault("awning 0 0 when ((((1))));", 0, 0);
         fault("awning 0 0 when (((((1)))));", 5, 21);
         fault("awning 0 0 when ((((((1))))));", 5, 21);
