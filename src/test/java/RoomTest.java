@@ -1,5 +1,6 @@
 import com.sun.management.ThreadMXBean;
 import java.lang.management.ManagementFactory;
+import java.util.NoSuchElementException;
 
 /** All calls of one run live in one room: what an object and the dearest of its 512 calls make stays small. */
 public final class RoomTest {
@@ -15,6 +16,11 @@ public final class RoomTest {
     }
 
     public static void main(String[] args) {
+        if (!(ManagementFactory.getThreadMXBean() instanceof ThreadMXBean threads)
+                || !threads.isThreadAllocatedMemorySupported()) {
+            System.out.println("this machine does not count what is made");
+            return;
+        }
         for (int call = 0; call < 34; call++) {
             run(call, 1);
             long bytes = run(call, CALLS);
@@ -38,7 +44,7 @@ public final class RoomTest {
     private static long ask(ShadySide x, int call, int i) {
         try {
             return call < 18 ? first(x, call, i) : second(x, call, i);
-        } catch (java.util.NoSuchElementException e) {
+        } catch (NoSuchElementException e) {
             return -1;
         }
     }
