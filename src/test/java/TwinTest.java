@@ -39,11 +39,17 @@ public final class TwinTest {
     private final Twin twin = new Twin();
     private final ShadySide x = new ShadySide();
     private final List<String> calls = new ArrayList<>();
+    /** Trips late in the day, where there is not time for all. */
+    private final boolean late;
+    /** Towns with many houses and shut lines. */
+    private final boolean dense;
     private int last = 44;
     private int wrong;
 
     private TwinTest(int seed) {
         chance = new Random(seed * 7919L + 5);
+        late = seed % 3 == 1;
+        dense = seed % 4 > 1;
     }
 
     public static void main(String[] args) {
@@ -134,7 +140,7 @@ public final class TwinTest {
             case "day":
                 return chance.nextInt(3) == 0 ? upTo(3) : 0;
             case "minute":
-                return chance.nextInt(4) == 0 ? upTo(119) : upTo(60);
+                return chance.nextInt(4) == 0 ? upTo(119) : late ? 90 + upTo(29) : upTo(60);
             case "by":
                 return chance.nextInt(3) == 0 ? upTo(119) : 40 + upTo(79);
             case "square":
@@ -180,7 +186,7 @@ public final class TwinTest {
 
     private void tell() {
         String text = "";
-        for (int i = 0; i < 20 && (i == 0 || text.length() > 1000); i++) {
+        for (int i = 0; i < 50 && (i == 0 || text.length() > 1000); i++) {
             text = text();
         }
         if (chance.nextInt(6) == 0) {
@@ -208,7 +214,7 @@ public final class TwinTest {
             free.add(i);
         }
         Collections.shuffle(free, chance);
-        int houses = upTo(chance.nextInt(3) == 0 ? 30 : 10);
+        int houses = upTo(dense ? 34 : 10);
         for (int i = 0; i < houses; i++) {
             text.append("house ").append(spot(free.remove(0)));
             text.append(1 + upTo(chance.nextInt(2) == 0 ? 5 : 98)).append(";");
@@ -222,7 +228,7 @@ public final class TwinTest {
         for (int i = upTo(4); i > 0; i--) {
             text.append("awning ").append(spot(upTo(99))).append("when ").append(formula(2)).append(";");
         }
-        for (int i = upTo(5); i > 0; i--) {
+        for (int i = upTo(dense ? 12 : 4); i > 0; i--) {
             text.append("shut ").append(spot(upTo(99))).append("when ").append(formula(2)).append(";");
         }
         for (int i = upTo(4); i > 0; i--) {
